@@ -1413,7 +1413,8 @@ public final class StageBallet {
             int smallest = FAR;
             for (int exit = 0; exit < exitCount; exit++) {
                 if ((used >>> exit & 1) == 0) {
-                    smallest = Math.min(smallest, costOf(slot, exit) + at(rest, used | 1 << exit));
+                    int own = at(cost, slot * MOST_EXITS + exit);
+                    smallest = Math.min(smallest, own + at(rest, used | 1 << exit));
                 }
             }
             return smallest;

@@ -695,6 +695,20 @@ final class PromiseTest {
                 addExit(0, 0) = 0
                 addExit(6, 0) = 1
                 """;
+        // The last dancer takes the exit 1, which is the nearest one of all three.
+        String chain = """
+                addDancer(2, 0, 0) = 0
+                addDancer(4, 0, 0) = 1
+                addDancer(3, 1, 0) = 2
+                addExit(0, 0) = 0
+                addExit(3, 0) = 1
+                addExit(7, 0) = 2
+                """;
+        Script.run(32, chain + "exitCost() = 6\n");
+        Script.run(33, chain + "exitCostByPotentials() = 6\naddProp(7, 0) = 1\n"
+                + "exitCostByPotentials() = throws.NoSuchElementException\naddExit(6, 0) = 3\n"
+                + "exitCostByPotentials() = 5\n");
+        Script.run(34, chain + "exitOf(0) = 0\nexitOf(1) = 2\nexitOf(2) = 1\n");
         Script.run(32, """
                 exitCost() = 0
                 addDancer(5, 5, 5) = 0
