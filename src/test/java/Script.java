@@ -1,5 +1,9 @@
 import java.lang.reflect.InvocationTargetException;
 import java.lang.reflect.Method;
+import java.util.ArrayList;
+import java.util.HashMap;
+import java.util.List;
+import java.util.Map;
 
 /**
  * Runs of calls on a new object, written a line a call:
@@ -8,39 +12,91 @@ import java.lang.reflect.Method;
  * addProp(1, 2) = 1                 the call answers 1
  * addProp(9, 2) = throws.IndexOutOfBoundsException
  * addProp(1, 3)                     the call throws nothing
+ * addMove(0, #65535)                a character by its number
  * type "leave"                      one call of type for each character, none throws
  * line = "2UR"                      the output line, by charAt, and its end
  * </pre>
+ *
+ * <p>After each refused call of such a run, the object is also compared with one that was not called,
+ * since a call that throws changes nothing.
  */
 final class Script {
-    private final int promise;
-    private final StageBallet ballet = new StageBallet();
+    private record Call(Method method, Object[] values) {
+    }
 
-    private Script(int promise) {
-        this.promise = promise;
+    private static final Map<String, Method> METHODS = methods();
+    private static final Map<String, Call> CALLS = new HashMap<>();
+
+    private final String name;
+    final StageBallet ballet = new StageBallet();
+
+    private Script(String name) {
+        this.name = name;
     }
 
     static void run(int promise, String lines) {
-        Script script = new Script(promise);
-        for (String line : lines.split("\n")) {
-            if (!line.isBlank()) {
-                script.step(line.trim());
+        run("promise " + promise, lines);
+    }
+
+    static void run(String name, String lines) {
+        Script script = new Script(name);
+        List<String> earlier = new ArrayList<>();
+        for (String raw : lines.split("\n")) {
+            String line = raw.trim();
+            if (!line.isEmpty()) {
+                script.step(line);
+                if (line.contains(") = throws.")) {
+                    Twin.refusalChangesNothing(name, earlier, line);
+                }
+                earlier.add(line);
             }
         }
     }
 
+    /** Makes the calls of the lines on a new object, whatever they answer. */
+    static Script played(List<String> lines) {
+        Script script = new Script("");
+        for (String line : lines) {
+            script.play(line);
+        }
+        return script;
+    }
+
+    /** Makes the call of a line, and returns its answer. */
+    String play(String line) {
+        if (line.startsWith("type \"")) {
+            for (char character : textOf(line).toCharArray()) {
+                Check.answer(() -> ballet.type(character));
+            }
+            return "";
+        }
+        return line.startsWith("line = \"") ? "" : answer(callOf(line));
+    }
+
+    static String callOf(String line) {
+        int sign = line.indexOf(") = ");
+        return sign < 0 ? line : line.substring(0, sign + 1);
+    }
+
+    static String dueOf(String line) {
+        int sign = line.indexOf(") = ");
+        return sign < 0 ? "" : line.substring(sign + 4);
+    }
+
+    private static String textOf(String line) {
+        return line.substring(line.indexOf('"') + 1, line.length() - 1);
+    }
+
     private void step(String line) {
         if (line.startsWith("type \"")) {
-            typeAll(line.substring(6, line.length() - 1));
+            typeAll(textOf(line));
         } else if (line.startsWith("line = \"")) {
-            readLine(line.substring(8, line.length() - 1));
+            readLine(textOf(line));
         } else {
-            int sign = line.indexOf(") = ");
-            String call = sign < 0 ? line : line.substring(0, sign + 1);
-            String got = answer(call);
+            String got = answer(callOf(line));
             boolean threw = got.startsWith("throws.");
-            String want = sign >= 0 ? line.substring(sign + 4) : threw ? "no exception" : got;
-            Check.same(where(call), want, got);
+            String otherwise = threw ? "no exception" : got;
+            Check.same(where(callOf(line)), dueOf(line).isEmpty() ? otherwise : dueOf(line), got);
         }
     }
 
@@ -63,19 +119,13 @@ final class Script {
     }
 
     private String where(String call) {
-        return "promise " + promise + ": " + call;
+        return name + ": " + call;
     }
 
-    private String answer(String call) {
-        String name = call.substring(0, call.indexOf('('));
-        String inside = call.substring(call.indexOf('(') + 1, call.lastIndexOf(')'));
-        String[] parts = inside.isBlank() ? new String[0] : inside.split(", ");
-        Object[] values = new Object[parts.length];
-        for (int i = 0; i < parts.length; i++) {
-            values[i] = value(parts[i]);
-        }
+    private String answer(String text) {
+        Call call = CALLS.computeIfAbsent(text, Script::parsed);
         try {
-            return String.valueOf(methodNamed(name).invoke(ballet, values));
+            return String.valueOf(call.method().invoke(ballet, call.values()));
         } catch (InvocationTargetException e) {
             return "throws." + e.getCause().getClass().getSimpleName();
         } catch (IllegalAccessException e) {
@@ -83,19 +133,37 @@ final class Script {
         }
     }
 
+    private static Call parsed(String text) {
+        String inside = text.substring(text.indexOf('(') + 1, text.lastIndexOf(')'));
+        String[] parts = inside.isEmpty() ? new String[0] : inside.split(", ");
+        Object[] values = new Object[parts.length];
+        for (int i = 0; i < parts.length; i++) {
+            values[i] = value(parts[i]);
+        }
+        Method method = METHODS.get(text.substring(0, text.indexOf('(')));
+        if (method == null) {
+            throw new IllegalArgumentException("no method for " + text);
+        }
+        return new Call(method, values);
+    }
+
     private static Object value(String part) {
         if (part.startsWith("'")) {
             return part.charAt(1);
         }
+        if (part.startsWith("#")) {
+            return (char) Integer.parseInt(part.substring(1));
+        }
         return Integer.valueOf(part);
     }
 
-    private static Method methodNamed(String name) {
+    private static Map<String, Method> methods() {
+        Map<String, Method> methods = new HashMap<>();
         for (Method method : StageBallet.class.getMethods()) {
-            if (method.getDeclaringClass() == StageBallet.class && method.getName().equals(name)) {
-                return method;
+            if (method.getDeclaringClass() == StageBallet.class) {
+                methods.put(method.getName(), method);
             }
         }
-        throw new IllegalArgumentException("no method " + name);
+        return methods;
     }
 }
