@@ -176,6 +176,46 @@ final class ExitBounds {
                     addExit(0, 2) = 2
                     IT = 33
                     """, call);
+            // Dancers who have to give up a nearest exit one after the other.
+            Sentence.holdsForEach(promise, best, """
+                    addDancer(2, 4, 0) = 0
+                    addDancer(1, 5, 0) = 1
+                    addDancer(2, 0, 0) = 2
+                    addDancer(4, 2, 0) = 3
+                    addDancer(0, 5, 0) = 4
+                    addExit(1, 1) = 0
+                    addExit(4, 0) = 1
+                    addExit(4, 1) = 2
+                    addExit(1, 5) = 3
+                    addExit(0, 2) = 4
+                    IT = 10
+                    """, call);
+            Sentence.holdsForEach(promise, best, """
+                    addDancer(1, 1, 0) = 0
+                    addDancer(1, 0, 0) = 1
+                    addExit(0, 1) = 0
+                    addExit(2, 2) = 1
+                    addExit(0, 0) = 2
+                    addExit(1, 2) = 3
+                    addExit(2, 1) = 4
+                    addExit(1, 0) = 5
+                    IT = 1
+                    """, call);
+            Sentence.holdsForEach(promise, best, """
+                    addDancer(0, 1, 0) = 0
+                    addDancer(2, 0, 0) = 1
+                    addDancer(0, 0, 0) = 2
+                    addDancer(1, 0, 0) = 3
+                    addDancer(1, 1, 0) = 4
+                    addDancer(2, 1, 0) = 5
+                    addExit(2, 1) = 0
+                    addExit(1, 0) = 1
+                    addExit(0, 1) = 2
+                    addExit(1, 2) = 3
+                    addExit(2, 0) = 4
+                    addExit(0, 0) = 5
+                    IT = 1
+                    """, call);
             String zero = "Returns the cost, 0 without dancers.";
             Sentence.holdsForEach(promise, zero, "IT = 0\n" + Lines.exits(6, 0) + "IT = 0\naddDancer(0, 1, 0) = 0\n"
                     + "IT = 1\nremoveDancer(0) = 0\nIT = 0\n", call);
@@ -354,7 +394,7 @@ final class ExitBounds {
                 addExit(6, 7) = throws.IllegalStateException
                 exits() = 6
                 """);
-        String cells = "Every exit is at a cell, and no two exits are at the same cell; a cell with an exit can have a prop.";
+        String cells = "no two exits are at the same cell; a cell with an exit can have a prop.";
         Sentence.holds(Sentence.TERMS, cells, """
                 addProp(2, 2) = 1
                 addExit(2, 2) = 0
@@ -447,6 +487,16 @@ final class ExitBounds {
                 exitOf(0) = 1
                 exitOf(1) = 0
                 exitCost() = 3
+                """);
+        // An exit that is given already is not given again, also to the dancer who stands at it.
+        Sentence.holds(Sentence.TERMS, best, """
+                addDancer(1, 0, 0) = 0
+                addDancer(0, 0, 0) = 1
+                addExit(0, 0) = 0
+                addExit(0, 1) = 1
+                exitCost() = 2
+                exitOf(0) = 0
+                exitOf(1) = 1
                 """);
         // A greedy first dancer would cost more: the sum counts before the indices.
         Sentence.holds(Sentence.TERMS, best, """

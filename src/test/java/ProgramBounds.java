@@ -269,19 +269,22 @@ final class ProgramBounds {
                 """ + typed("exit 33;dancer 33*5;nails 0;leave") + "run() = 4\ndancers() = 0\n");
     }
 
-    /** Types a text that is not a program, and asks for its error position. */
+    /** Types a text that is not a program, and asks for its error position; the words are of the terms. */
     private static void position(String words, String text, int position) {
+        position(Sentence.TERMS, words, text, position);
+    }
+
+    private static void position(int promise, String words, String text, int position) {
         StringBuilder lines = new StringBuilder();
         for (int k = 0; k < text.length(); k++) {
             lines.append("type(#").append((int) text.charAt(k)).append(") = ").append(k + 1).append('\n');
         }
-        Sentence.holds(words.equals(POSITION) || words.startsWith("`") || words.startsWith("where") ? Sentence.TERMS : 49,
-                words, lines + "run() = throws.IllegalArgumentException\nerrorPosition() = " + position
-                + "\nfailedCommand() = throws.NoSuchElementException\ntype('x') = 1\n");
+        Sentence.holds(promise, words, lines + "run() = throws.IllegalArgumentException\nerrorPosition() = "
+                + position + "\nfailedCommand() = throws.NoSuchElementException\ntype('x') = 1\n");
     }
 
     private static void brokenTexts() {
-        String notProgram = "Throws `IllegalArgumentException` if the text is not a program; its error position is recorded";
+        String notProgram = "if the text is not a program; its error position is recorded";
         String[] commands = {"prop 11", "dancer 22*13", "pair 12&34", "figure 5:UDLRS", "perform 5 67", "walk 12>34",
             "exit 55", "nails 12", "leave"};
         // Each proper beginning of a program that is not one itself, alone and behind another command.
@@ -292,7 +295,7 @@ final class ProgramBounds {
                 boolean program = whole.contains(begin) && length > 6 || begin.startsWith("figure 5:");
                 if (!program) {
                     position(POSITION, begin, length);
-                    position(notProgram, "leave;" + begin, 6 + length);
+                    position(49, notProgram, "leave;" + begin, 6 + length);
                 }
             }
             // A wrong character at each index, and one too many at the end.
@@ -301,7 +304,7 @@ final class ProgramBounds {
                     String rest = command.substring(Math.min(command.length(), index + 1));
                     position(POSITION, command.substring(0, index) + wrong + rest, index);
                 }
-                position(notProgram, "leave;" + command.substring(0, index) + "#", 6 + index);
+                position(49, notProgram, "leave;" + command.substring(0, index) + "#", 6 + index);
             }
         }
         position(POSITION, "", 0);
@@ -334,7 +337,8 @@ final class ProgramBounds {
     }
 
     private static void errorPosition() {
-        for (String words : new String[] {"Returns the recorded error position of the latest text", "Returns the error position."}) {
+        for (String words : new String[] {"Returns the recorded error position of the latest text",
+            "Returns the error position."}) {
             Sentence.holds(50, words, typed("prop ") + "run() = throws.IllegalArgumentException\nerrorPosition() = 5\n"
                     + typed("prop 0") + "run() = throws.IllegalArgumentException\nerrorPosition() = 6\n"
                     + "save() = 0\n" + typed("prop 00") + "run() = 1\nerrorPosition() = 6\n" + typed("prop 00")

@@ -181,6 +181,9 @@ final class StageBounds {
                 Sentence.holdsForEach(promise, words, fourCorners() + "IT = 5\n", call);
                 Sentence.holdsForEach(promise, words, "IT = 1\n" + Lines.props(20) + "IT = 1\n", call);
                 Sentence.holdsForEach(promise, words, Lines.snake() + "IT = 1\n", call);
+                // The cell 0, 0 comes into the area of another cell; asked again, the answer is the same.
+                Sentence.holdsForEach(promise, words, "addProp(0, 1) = 1\naddProp(1, 1) = 2\nIT = 1\nIT = 1\n"
+                        + "addProp(1, 0) = 3\nIT = 2\nIT = 2\n", call);
                 Sentence.holdsForEach(promise, words, chessBoard() + "IT = 17\n", call);
             }
         }

@@ -27,6 +27,7 @@ final class UndoBounds {
         eightLatest();
         undo();
         stateOfUndo();
+        movesOfUndo();
         save();
         restore();
         orderOfCalls();
@@ -49,7 +50,8 @@ final class UndoBounds {
             Twin.changeIsUndone(change[0], setup, change[0]);
         }
         for (String program : new String[] {"prop 33", "prop 33;dancer 34*7;exit 55;figure 2:;perform 5 2", "leave",
-            "walk 0>00", "figure 4:", "perform 4 0;nails 0", "walk 1>75;nails 1;walk 1>20;nails 1;pair 2&3;leave"}) {
+            "walk 0>00", "figure 4:", "perform 4 0;nails 0", "walk 1>75;nails 1;walk 1>20;nails 1;pair 2&3;leave",
+            "figure 2:LLLRRRLLLRR;figure 0:LRLRLRLRLRLR", "figure 5:"}) {
             String typed = STAGE + "type \"" + program + "\"\n";
             int commands = program.split(";").length;
             Sentence.holds(Sentence.TERMS, CHANGE, typed + "run() = " + commands + "\nundo() = 4\nundo() = 3\n");
@@ -257,6 +259,17 @@ final class UndoBounds {
                 isFree(5, 5) = true
                 addDancer(0, 0, 0) = 0
                 """);
+    }
+
+    /** The moves of a figure that is written anew come back, not only their number. */
+    private static void movesOfUndo() {
+        String figure = Lines.moves(0, "UUD") + "save() = 0\n";
+        String cleared = figure + "clearFigure(0) = 3\n" + Lines.moves(0, "RS");
+        String shown = "writeFigure(0) = 3\nline = \"2UD\"\n";
+        Sentence.holds(Sentence.TERMS, STATE, figure + "type \"figure 0:LSR\"\nrun() = 1\nwriteFigure(0) = 3\n"
+                + "line = \"LSR\"\nundo() = 3\n" + shown);
+        Sentence.holds(Sentence.TERMS, STATE, cleared + "undo() = 5\nundo() = 4\nundo() = 3\n" + shown);
+        Sentence.holds(Sentence.TERMS, STATE, cleared + "restore() = 0\n" + shown);
     }
 
     private static void save() {
