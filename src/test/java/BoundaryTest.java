@@ -4,6 +4,7 @@ final class BoundaryTest {
     }
 
     public static void main(String[] args) {
+        UseBounds.test();
         StageBounds.test();
         DancerBounds.test();
         FigureBounds.test();

@@ -9,10 +9,14 @@ import java.util.Set;
 import java.util.TreeMap;
 import java.util.TreeSet;
 
-/** The sentences of the document, by promise (0 for the terms), and which of them the tests quote. */
+/**
+ * The sentences of the document, by promise (0 for the terms, -1 for "What it is"), and which of them the
+ * tests quote.
+ */
 final class Document {
     /** What no call can show, and what other sentences say in detail. */
     private static final Set<String> IDLE = Set.of(
+            "A ballet on a stage of cells.",
             "Dancers stand on different cells, perform figures, which their partners mirror, wear their nails "
                     + "down, walk around props, and leave through exits.",
             "The class computes distances, the cheapest way to leave, connected areas and mirrored formations "
@@ -20,6 +24,8 @@ final class Document {
             "This class is not thread-safe.",
             "A program is a text with the following grammar, in which braces mean zero or more repetitions, "
                     + "brackets mean an optional part, and a vertical bar separates alternatives.");
+
+    private static final int NO_PROMISE = -2;
 
     private static final Map<Integer, Set<String>> SENTENCES = sentences();
     private static final Map<Integer, Set<String>> QUOTED = new TreeMap<>();
@@ -41,7 +47,7 @@ final class Document {
     }
 
     static void everySentenceIsQuoted() {
-        Check.same("number of promises, and the terms", "55", String.valueOf(SENTENCES.size()));
+        Check.same("number of promises, the terms and what it is", "56", String.valueOf(SENTENCES.size()));
         for (int promise : SENTENCES.keySet()) {
             for (String sentence : SENTENCES.get(promise)) {
                 boolean quoted = QUOTED.getOrDefault(promise, Set.of()).contains(sentence);
@@ -54,11 +60,11 @@ final class Document {
     private static Map<Integer, Set<String>> sentences() {
         Map<Integer, Set<String>> result = new TreeMap<>();
         try {
-            int promise = -1;
+            int promise = NO_PROMISE;
             for (String line : Files.readAllLines(Path.of("../shared/DOC.md"))) {
                 if (line.startsWith("## ")) {
                     promise = promiseOf(line);
-                } else if (promise >= 0) {
+                } else if (promise != NO_PROMISE) {
                     addSentences(line, result.computeIfAbsent(promise, key -> new TreeSet<>()));
                 }
             }
@@ -69,11 +75,14 @@ final class Document {
     }
 
     private static int promiseOf(String heading) {
-        if (heading.startsWith("## Terms")) {
-            return 0;
+        if (heading.equals("## What it is")) {
+            return Sentence.WHAT_IT_IS;
+        }
+        if (heading.equals("## Terms")) {
+            return Sentence.TERMS;
         }
         return heading.startsWith("## Promise ")
-                ? Integer.parseInt(heading.substring(11, heading.indexOf(':'))) : -1;
+                ? Integer.parseInt(heading.substring(11, heading.indexOf(':'))) : NO_PROMISE;
     }
 
     private static void addSentences(String line, Set<String> sentences) {

@@ -1,7 +1,8 @@
 /** One test of one sentence of the document. */
 final class Sentence {
-    /** The promise under which Document keeps the sentences of the terms. */
+    /** The promises under which Document keeps the sentences of "Terms" and of "What it is". */
     static final int TERMS = 0;
+    static final int WHAT_IT_IS = -1;
 
     private Sentence() {
     }
@@ -20,6 +21,7 @@ final class Sentence {
     }
 
     static String name(int promise, String words) {
-        return (promise == TERMS ? "terms" : "promise " + promise) + ", \"" + words + "\"";
+        String where = promise == TERMS ? "terms" : promise == WHAT_IT_IS ? "what it is" : "promise " + promise;
+        return where + ", \"" + words + "\"";
     }
 }
